@@ -174,10 +174,11 @@ public final class WahBitmapIndex {
         if (!isValidId(id)) {
             return NOT_VALID;
         }
-        int groups = groupCount(id);
+        int length = lengthOf(id);
+        int groups = groupCount(length);
         int words = 0;
         for (int g = 0; g < groups; g++) {
-            if (startsWord(id, g)) {
+            if (startsWord(id, length, g)) {
                 words++;
             }
         }
@@ -188,12 +189,13 @@ public final class WahBitmapIndex {
         if (!isValidId(id) || index < 0) {
             return 0;
         }
-        int groups = groupCount(id);
+        int length = lengthOf(id);
+        int groups = groupCount(length);
         int words = 0;
         for (int g = 0; g < groups; g++) {
-            if (startsWord(id, g)) {
+            if (startsWord(id, length, g)) {
                 if (words == index) {
-                    return wordFrom(id, g);
+                    return wordFrom(id, length, g);
                 }
                 words++;
             }
@@ -265,19 +267,19 @@ public final class WahBitmapIndex {
         return bits;
     }
 
-    private int groupCount(int id) {
-        return (lengthOf(id) + GROUP_BITS - 1) / GROUP_BITS;
+    private static int groupCount(int length) {
+        return (length + GROUP_BITS - 1) / GROUP_BITS;
     }
 
-    private boolean isFillGroup(int id, int g) {
+    private boolean isFillGroup(int id, int length, int g) {
         int bits = groupBits[id * MAX_GROUPS + g];
-        boolean full = (g + 1) * GROUP_BITS <= lengthOf(id);
+        boolean full = (g + 1) * GROUP_BITS <= length;
         return full && (bits == 0 || bits == ALL_ONES);
     }
 
     /** Whether group g begins a word of its own, and does not lengthen the fill before it. */
-    private boolean startsWord(int id, int g) {
-        if (g == 0 || !isFillGroup(id, g)) {
+    private boolean startsWord(int id, int length, int g) {
+        if (g == 0 || !isFillGroup(id, length, g)) {
             return true;
         }
         // Only the last group can be partial, so an equal group before this one is a fill too.
@@ -285,14 +287,14 @@ public final class WahBitmapIndex {
         return groupBits[slot] != groupBits[slot - 1];
     }
 
-    private int wordFrom(int id, int first) {
+    private int wordFrom(int id, int length, int first) {
         int bits = groupBits[id * MAX_GROUPS + first];
-        if (!isFillGroup(id, first)) {
+        if (!isFillGroup(id, length, first)) {
             return bits;
         }
-        int groups = groupCount(id);
+        int groups = groupCount(length);
         int end = first + 1;
-        while (end < groups && !startsWord(id, end)) {
+        while (end < groups && !startsWord(id, length, end)) {
             end++;
         }
         int fillBit = bits == 0 ? 0 : FILL_ONE;

@@ -9,6 +9,7 @@ public final class Promise05SelectRangeTest {
         everyBound();
         laterRowsDoNotCount();
         shorterThanBefore();
+        registersAreNotValues();
         onlyDestinationChanges();
         refusesWrongDestination();
         Due.end();
@@ -85,6 +86,12 @@ public final class Promise05SelectRangeTest {
         x.appendRun(1, 22);
         Due.taken("selectRange(8, 1, 1)", x.selectRange(8, 1, 1));
         Due.due("bits of 8", Snapshot.bits(x, 8), "0".repeat(40) + "1".repeat(22));
+    }
+
+    private static void registersAreNotValues() {
+        WahBitmapIndex x = Samples.nullRowsAndOnes();
+        Due.taken("selectRange(9, 0, 100)", x.selectRange(9, 0, 100));
+        Due.due("bits of 9", Snapshot.bits(x, 9), "0".repeat(20));
     }
 
     private static void onlyDestinationChanges() {

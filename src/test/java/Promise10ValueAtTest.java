@@ -3,6 +3,7 @@ public final class Promise10ValueAtTest {
     public static void main(String[] args) {
         everyValue();
         rowsOutside();
+        registersAreNotValues();
         Due.end();
     }
 
@@ -22,6 +23,13 @@ public final class Promise10ValueAtTest {
                 Due.due("getValueAt(" + row + ")", x.getValueAt(row), valueOf(row, valueCount));
             }
             Due.due("getValueAt(496)", x.getValueAt(496), -2);
+        }
+    }
+
+    private static void registersAreNotValues() {
+        WahBitmapIndex x = Samples.nullRowsAndOnes();
+        for (int row = 0; row < 20; row++) {
+            Due.due("getValueAt(" + row + ")", x.getValueAt(row), -1);
         }
     }
 

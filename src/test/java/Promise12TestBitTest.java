@@ -4,6 +4,7 @@ public final class Promise12TestBitTest {
         bitsOfValues();
         bitsOfRegisters();
         rowsOutside();
+        rowsBeyondTheLargest();
         wrongIds();
         Due.end();
     }
@@ -54,13 +55,19 @@ public final class Promise12TestBitTest {
         }
     }
 
+    private static void rowsBeyondTheLargest() {
+        WahBitmapIndex x = Samples.full();
+        for (int id : Ids.valid(8)) {
+            Due.due("testBit(" + id + ", 495)", x.testBit(id, 495), id == 3 || id >= 8);
+            for (int row = 496; row < 560; row++) {
+                Due.due("testBit(" + id + ", " + row + ")", x.testBit(id, row), false);
+            }
+        }
+    }
+
     private static void wrongIds() {
         for (int valueCount = 1; valueCount <= 8; valueCount++) {
-            WahBitmapIndex x = new WahBitmapIndex(2, valueCount);
-            x.appendRun(0, 62);
-            for (int id : Ids.results()) {
-                x.selectRange(id, 0, 0);
-            }
+            WahBitmapIndex x = Samples.onesEverywhere(valueCount);
             for (int id : Ids.notValid(valueCount)) {
                 for (int row : new int[] {-1, 0, 1, 30, 31, 61, 62}) {
                     Due.due("testBit(" + id + ", " + row + ")", x.testBit(id, row), false);

@@ -4,6 +4,7 @@ public final class Promise14NextSetRowTest {
         handWritten();
         everyStart();
         registerShorterThanRows();
+        rowsBeyondTheLargest();
         wrongIds();
         Due.end();
     }
@@ -26,7 +27,10 @@ public final class Promise14NextSetRowTest {
         next(x, 1, 147, -1);
         next(x, 1, 496, -1);
         next(x, 1, Integer.MAX_VALUE, -1);
+        next(x, 0, Integer.MIN_VALUE, 0);
+        next(x, 0, -1, 0);
         next(x, 0, 0, 0);
+        next(x, 0, 1, 1);
         next(x, 0, 5, 6);
         next(x, 0, 105, 105);
         next(x, 0, 106, -1);
@@ -63,13 +67,21 @@ public final class Promise14NextSetRowTest {
         next(x, 0, 20, 20);
     }
 
+    private static void rowsBeyondTheLargest() {
+        WahBitmapIndex x = Samples.full();
+        for (int id : Ids.valid(8)) {
+            boolean ones = id == 3 || id >= 8;
+            next(x, id, 0, ones ? 0 : -1);
+            next(x, id, 495, ones ? 495 : -1);
+            for (int from = 496; from < 560; from++) {
+                next(x, id, from, -1);
+            }
+        }
+    }
+
     private static void wrongIds() {
         for (int valueCount = 1; valueCount <= 8; valueCount++) {
-            WahBitmapIndex x = new WahBitmapIndex(2, valueCount);
-            x.appendRun(0, 62);
-            for (int id : Ids.results()) {
-                x.selectRange(id, 0, 0);
-            }
+            WahBitmapIndex x = Samples.onesEverywhere(valueCount);
             for (int id : Ids.notValid(valueCount)) {
                 for (int from : new int[] {Integer.MIN_VALUE, -1, 0, 30, 62, Integer.MAX_VALUE}) {
                     next(x, id, from, -1);

@@ -5,6 +5,7 @@ public final class Promise15WordsTest {
         fills();
         neighbouringFills();
         longestFills();
+        wordsOfFullBitmaps();
         registers();
         wrongArguments();
         Due.end();
@@ -76,6 +77,17 @@ public final class Promise15WordsTest {
             boolean even = index % 2 == 0;
             Due.due("getWord(0, n)", x.getWord(0, index), even ? 0x55555555 : 0x2AAAAAAA);
             Due.due("getWord(1, n)", x.getWord(1, index), even ? 0x2AAAAAAA : 0x55555555);
+        }
+    }
+
+    private static void wordsOfFullBitmaps() {
+        WahBitmapIndex x = Samples.full();
+        for (int id : Ids.valid(8)) {
+            boolean ones = id == 3 || id >= 8;
+            Due.due("words of " + id, Snapshot.words(x, id), ones ? "C0000010" : "80000010");
+            for (int index = 1; index <= 20; index++) {
+                Due.due("getWord(" + id + ", " + index + ")", x.getWord(id, index), 0);
+            }
         }
     }
 
