@@ -1,11 +1,31 @@
-import java.util.function.BooleanSupplier;
+import java.util.List;
 
 /** Counts the answers of one test that are not as due; every test runs in a process of its own. */
 final class Due {
+    // One fault may show in very many answers; those beyond this number are only counted.
+    private static final int MOST_TOLD = 200;
+
     private static int asked = 0;
     private static int wrong = 0;
 
     private Due() {
+    }
+
+    /** Runs the checks of one sentence of the document, and tells the sentence if one fails. */
+    static void holds(String sentence, Runnable checks) {
+        int askedBefore = asked;
+        int wrongBefore = wrong;
+        try {
+            checks.run();
+        } catch (RuntimeException thrown) {
+            fault("a call threw " + thrown);
+        }
+        if (asked == askedBefore) {
+            fault("nothing was asked");
+        }
+        if (wrong > wrongBefore) {
+            System.out.println("so this sentence does not hold: " + sentence);
+        }
     }
 
     static void due(String call, long got, long want) {
@@ -25,18 +45,12 @@ final class Due {
         due(call, got, true);
     }
 
-    /** The call answers false and leaves everything that the index tells as it was. */
-    static void refused(String call, WahBitmapIndex x, BooleanSupplier run) {
-        String before = Snapshot.of(x);
-        due(call, run.getAsBoolean(), false);
-        due("all answers after " + call, Snapshot.of(x), before);
-    }
-
-    /** Runs something that must leave everything that the index tells as it was. */
-    static void unchanged(String call, WahBitmapIndex x, Runnable run) {
-        String before = Snapshot.of(x);
-        run.run();
-        due("all answers after " + call, Snapshot.of(x), before);
+    /** Two snapshots tell the same, line by line. */
+    static void same(String when, List<String> got, List<String> want) {
+        due("lines " + when, got.size(), want.size());
+        for (int line = 0; line < got.size() && line < want.size(); line++) {
+            check(when, got.get(line), want.get(line));
+        }
     }
 
     static boolean anyWrong() {
@@ -53,8 +67,14 @@ final class Due {
     private static void check(String call, String got, String want) {
         asked++;
         if (!got.equals(want)) {
-            wrong++;
-            System.out.println(call + " answered " + got + ", due is " + want);
+            fault(call + " answered " + got + ", due is " + want);
+        }
+    }
+
+    private static void fault(String text) {
+        wrong++;
+        if (wrong <= MOST_TOLD) {
+            System.out.println(text);
         }
     }
 }

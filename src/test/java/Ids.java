@@ -16,11 +16,16 @@ final class Ids {
         return List.of(8, 9, 10, 11);
     }
 
-    static List<Integer> valid(int valueCount) {
+    static List<Integer> values(int valueCount) {
         List<Integer> ids = new ArrayList<>();
         for (int value = 0; value < valueCount; value++) {
             ids.add(value);
         }
+        return ids;
+    }
+
+    static List<Integer> valid(int valueCount) {
+        List<Integer> ids = values(valueCount);
         ids.addAll(results());
         return ids;
     }
@@ -33,6 +38,12 @@ final class Ids {
         for (int id = valueCount; id < 8; id++) {
             ids.add(id);
         }
+        return ids;
+    }
+
+    static List<Integer> all(int valueCount) {
+        List<Integer> ids = valid(valueCount);
+        ids.addAll(notValid(valueCount));
         return ids;
     }
 

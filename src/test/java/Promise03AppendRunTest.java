@@ -1,102 +1,208 @@
+import java.util.List;
+import java.util.function.Supplier;
+
 /** Promise 3: appendRun. */
 public final class Promise03AppendRunTest {
+    private static final int MIN = Integer.MIN_VALUE;
+    private static final int MAX = Integer.MAX_VALUE;
+
+    private static final int[] NEVER_VALUES = {-2, -3, 8, 9, 11, 12, 0x10000000, MIN, MAX};
+
     public static void main(String[] args) {
-        appendsRuns();
-        crossesGroups();
-        fillsExactly();
-        refusesWrongValues();
-        refusesWrongCounts();
-        leavesResultsAlone();
+        Due.holds("value must be NULL_VALUE or in [0, valueCount-1], else refused;",
+            Promise03AppendRunTest::refusesWrongValues);
+        Due.holds("count must be in [1, capacity - N], else refused.",
+            Promise03AppendRunTest::takesAllTheRoomAndNoMore);
+        Due.holds("So count 0, any negative count, and any count larger than the free room "
+            + "capacity - N are refused;", Promise03AppendRunTest::refusesWrongCounts);
+        Due.holds("when N = capacity every call is refused.",
+            Promise03AppendRunTest::refusesEveryCallWhenFull);
+        Due.holds("A refused call answers false and changes nothing.",
+            Promise03AppendRunTest::refusedCallsInEveryState);
+        Due.holds("Otherwise rows N..N+count-1 get the value, N grows by count,",
+            Promise03AppendRunTest::firstAndLastRowOfTheRun);
+        Due.holds("every value bitmap grows to the new length N,",
+            Promise03AppendRunTest::everyBitmapGrows);
+        Due.holds("the new bits being 1 only in the bitmap of value (in none when value is "
+            + "NULL_VALUE), and the answer is true.", Promise03AppendRunTest::newBits);
+        Due.holds("Earlier rows and their bits are not changed.",
+            Promise03AppendRunTest::earlierRowsStay);
+        Due.holds("Result registers are not changed, neither their lengths nor their bits.",
+            Promise03AppendRunTest::registersStay);
         Due.end();
     }
 
-    private static void appendsRuns() {
-        WahBitmapIndex x = new WahBitmapIndex(1, 2);
-        Due.taken("appendRun(1, 3)", x.appendRun(1, 3));
-        Due.taken("appendRun(-1, 2)", x.appendRun(-1, 2));
-        Due.taken("appendRun(0, 4)", x.appendRun(0, 4));
-        Due.due("getRowCount()", x.getRowCount(), 9);
-        Due.due("getLength(0)", x.getLength(0), 9);
-        Due.due("getLength(1)", x.getLength(1), 9);
-        Due.due("bits of 0", Snapshot.bits(x, 0), "000001111");
-        Due.due("bits of 1", Snapshot.bits(x, 1), "111000000");
-        Due.due("getValueAt(2)", x.getValueAt(2), 1);
-        Due.due("getValueAt(3)", x.getValueAt(3), -1);
-        Due.due("getValueAt(4)", x.getValueAt(4), -1);
-        Due.due("getValueAt(5)", x.getValueAt(5), 0);
-    }
-
-    private static void crossesGroups() {
-        WahBitmapIndex x = new WahBitmapIndex(16, 8);
-        Due.taken("appendRun(7, 30)", x.appendRun(7, 30));
-        Due.taken("appendRun(3, 34)", x.appendRun(3, 34));
-        Due.taken("appendRun(7, 1)", x.appendRun(7, 1));
-        for (int row = 0; row < 65; row++) {
-            boolean isThree = row >= 30 && row < 64;
-            Due.due("getValueAt(" + row + ")", x.getValueAt(row), isThree ? 3 : 7);
-            for (int value = 0; value < 8; value++) {
-                boolean want = value == (isThree ? 3 : 7);
-                Due.due("testBit(" + value + ", " + row + ")", x.testBit(value, row), want);
-            }
-        }
-    }
-
-    private static void fillsExactly() {
-        for (int groups = 1; groups <= 16; groups++) {
-            WahBitmapIndex x = new WahBitmapIndex(groups, 1);
-            int capacity = 31 * groups;
-            Due.refused("appendRun(0, capacity + 1)", x, () -> x.appendRun(0, capacity + 1));
-            Due.taken("appendRun(0, 5)", x.appendRun(0, 5));
-            Due.refused("appendRun(0, room + 1)", x, () -> x.appendRun(0, capacity - 4));
-            Due.taken("appendRun(0, room)", x.appendRun(0, capacity - 5));
-            Due.due("getRowCount()", x.getRowCount(), capacity);
-            Due.due("countBits(0)", x.countBits(0), capacity);
-            Due.refused("appendRun(0, 1) when full", x, () -> x.appendRun(0, 1));
-            Due.refused("appendRun(-1, 1) when full", x, () -> x.appendRun(-1, 1));
-            Due.refused("appendRun(0, 0) when full", x, () -> x.appendRun(0, 0));
-        }
+    private static void refusedRun(Supplier<WahBitmapIndex> made, int value, int count) {
+        String call = "appendRun(" + value + ", " + count + ")";
+        Twins.refused(call, made, x -> x.appendRun(value, count));
     }
 
     private static void refusesWrongValues() {
         for (int valueCount = 1; valueCount <= 8; valueCount++) {
-            WahBitmapIndex x = new WahBitmapIndex(2, valueCount);
-            Due.taken("appendRun(0, 4)", x.appendRun(0, 4));
-            int[] wrong = {valueCount, 8, 9, 11, 12, -2, Integer.MIN_VALUE, Integer.MAX_VALUE};
-            for (int value : wrong) {
-                Due.refused("appendRun(" + value + ", 2)", x, () -> x.appendRun(value, 2));
+            int values = valueCount;
+            for (int value = -1; value < valueCount; value++) {
+                WahBitmapIndex x = new WahBitmapIndex(1, valueCount);
+                Due.taken("appendRun(" + value + ", 2)", x.appendRun(value, 2));
+            }
+            refusedRun(() -> Samples.mixed(values), valueCount, 2);
+            for (int value : NEVER_VALUES) {
+                refusedRun(() -> Samples.mixed(values), value, 2);
             }
         }
     }
 
-    private static void refusesWrongCounts() {
-        WahBitmapIndex x = new WahBitmapIndex(1, 2);
-        Due.taken("appendRun(1, 10)", x.appendRun(1, 10));
-        int[] wrong = {
-            0, -1, -10, -21, -31, 22, 31, 32, 496, Integer.MIN_VALUE, Integer.MIN_VALUE + 1,
-            Integer.MAX_VALUE - 9, Integer.MAX_VALUE,
-        };
-        for (int count : wrong) {
-            Due.refused("appendRun(1, " + count + ")", x, () -> x.appendRun(1, count));
-            Due.refused("appendRun(-1, " + count + ")", x, () -> x.appendRun(-1, count));
+    private static WahBitmapIndex withRows(int groups, int rows) {
+        WahBitmapIndex x = new WahBitmapIndex(groups, 2);
+        for (int row = 0; row < rows; row++) {
+            x.appendRow(row % 3 - 1);
+        }
+        return x;
+    }
+
+    private static void takesAllTheRoomAndNoMore() {
+        for (int groups = 1; groups <= 16; groups++) {
+            int capacity = 31 * groups;
+            for (int rows = 0; rows < capacity; rows += groups == 1 ? 1 : 17) {
+                int room = capacity - rows;
+                takenRun(groups, rows, 1);
+                takenRun(groups, rows, room);
+                Due.due("appendRun(1, room + 1)",
+                    withRows(groups, rows).appendRun(1, room + 1), false);
+                Due.due("appendRun(1, 0)", withRows(groups, rows).appendRun(1, 0), false);
+            }
         }
     }
 
-    private static void leavesResultsAlone() {
-        WahBitmapIndex x = new WahBitmapIndex(4, 2);
-        Due.taken("appendRun(0, 20)", x.appendRun(0, 20));
-        Due.taken("combine copy", x.combine(6, 8, 0, 0));
-        Due.taken("combine not", x.combine(5, 9, 0, 0));
-        Due.taken("selectRange", x.selectRange(10, 0, 1));
-        StringBuilder before = new StringBuilder();
-        StringBuilder after = new StringBuilder();
-        for (int id : Ids.results()) {
-            before.append(Snapshot.bitmap(x, id));
+    private static void takenRun(int groups, int rows, int count) {
+        WahBitmapIndex x = withRows(groups, rows);
+        Due.taken("appendRun(1, " + count + ") after " + rows, x.appendRun(1, count));
+        Due.due("getRowCount()", x.getRowCount(), rows + count);
+        Due.due("getValueAt(last row)", x.getValueAt(rows + count - 1), 1);
+        Due.due("getValueAt(after it)", x.getValueAt(rows + count), -2);
+    }
+
+    private static void refusesWrongCounts() {
+        // With 10 rows, counts near the greatest int make N + count wrap to a small number.
+        int[] wrong = {
+            0, -1, -2, -10, -21, -31, 22, 23, 31, 32, 62, 496, 497, MIN, MIN + 1, MIN + 10,
+            MAX - 10, MAX - 9, MAX - 1, MAX,
+        };
+        for (int count : wrong) {
+            for (int value = -1; value <= 1; value++) {
+                refusedRun(() -> withRows(1, 10), value, count);
+            }
         }
-        Due.taken("appendRun(0, 60)", x.appendRun(0, 60));
-        Due.taken("appendRun(1, 44)", x.appendRun(1, 44));
-        for (int id : Ids.results()) {
-            after.append(Snapshot.bitmap(x, id));
+    }
+
+    private static void refusesEveryCallWhenFull() {
+        int[] counts = {MIN, -496, -31, -1, 0, 1, 2, 31, 496, MAX};
+        for (int groups = 1; groups <= 16; groups++) {
+            int full = groups;
+            for (int count : counts) {
+                refusedRun(() -> withRows(full, 31 * full), -1, count);
+                refusedRun(() -> withRows(full, 31 * full), 1, count);
+            }
         }
-        Due.due("result registers after appending", after.toString(), before.toString());
+    }
+
+    private static void refusedCallsInEveryState() {
+        int[][] calls = {
+            {-2, 1}, {8, 1}, {MIN, 1}, {MAX, 1}, {0, 0}, {0, -1}, {-1, 0}, {0, MIN}, {0, MAX},
+            {-1, MAX}, {0, 94}, {-1, 94}, {-2, 0}, {MAX, MAX}, {MIN, MIN},
+        };
+        for (int valueCount : new int[] {1, 3, 8}) {
+            for (Supplier<WahBitmapIndex> made : Samples.states(valueCount)) {
+                for (int[] call : calls) {
+                    refusedRun(made, call[0], call[1]);
+                }
+            }
+        }
+    }
+
+    private static void firstAndLastRowOfTheRun() {
+        for (int rows = 0; rows < 62; rows++) {
+            for (int count = 1; count <= 62 - rows; count++) {
+                WahBitmapIndex x = new WahBitmapIndex(2, 3);
+                Due.due("appendRun(0, " + rows + ")", x.appendRun(0, rows), rows > 0);
+                Due.taken("appendRun(2, " + count + ")", x.appendRun(2, count));
+                Due.due("getRowCount()", x.getRowCount(), rows + count);
+                Due.due("getValueAt(N - 1)", x.getValueAt(rows - 1), rows > 0 ? 0 : -2);
+                Due.due("getValueAt(N)", x.getValueAt(rows), 2);
+                Due.due("getValueAt(N + count - 1)", x.getValueAt(rows + count - 1), 2);
+                Due.due("getValueAt(N + count)", x.getValueAt(rows + count), -2);
+                Due.due("countBits(2)", x.countBits(2), count);
+            }
+        }
+    }
+
+    private static void everyBitmapGrows() {
+        for (int value = -1; value < 8; value++) {
+            WahBitmapIndex x = new WahBitmapIndex(16, 8);
+            int rows = 0;
+            for (int count : new int[] {1, 29, 1, 1, 30, 31, 62, 93, 248}) {
+                Due.taken("appendRun(" + value + ", " + count + ")", x.appendRun(value, count));
+                rows += count;
+                for (int id = 0; id < 8; id++) {
+                    Due.due("getLength(" + id + ")", x.getLength(id), rows);
+                }
+            }
+            Due.due("getRowCount()", x.getRowCount(), 496);
+        }
+    }
+
+    private static void newBits() {
+        for (int value = -1; value < 4; value++) {
+            WahBitmapIndex x = new WahBitmapIndex(3, 4);
+            Due.taken("appendRun(3, 30)", x.appendRun(3, 30));
+            Due.taken("appendRun(" + value + ", 34)", x.appendRun(value, 34));
+            for (int id = 0; id < 4; id++) {
+                String early = (id == 3 ? "1" : "0").repeat(30);
+                String late = (id == value ? "1" : "0").repeat(34);
+                Due.due("bits of " + id, Read.bits(x, id), early + late);
+            }
+        }
+    }
+
+    private static void earlierRowsStay() {
+        int[] counts = {1, 2, 30, 31, 32, 50, 92};
+        for (int rows = 1; rows <= 62; rows++) {
+            for (int count : counts) {
+                for (int value = -1; value <= 1; value++) {
+                    earlierRows(rows, value, count);
+                }
+            }
+        }
+    }
+
+    private static void earlierRows(int rows, int value, int count) {
+        WahBitmapIndex x = withRows(5, rows);
+        Due.taken("appendRun(" + value + ", " + count + ")", x.appendRun(value, count));
+        for (int row = 0; row < rows; row++) {
+            int held = row % 3 - 1;
+            Due.due("getValueAt(" + row + ")", x.getValueAt(row), held);
+            Due.due("testBit(0, " + row + ")", x.testBit(0, row), held == 0);
+            Due.due("testBit(1, " + row + ")", x.testBit(1, row), held == 1);
+        }
+    }
+
+    private static void registersStay() {
+        for (int value = -1; value <= 2; value++) {
+            WahBitmapIndex x = Samples.mixed(3);
+            for (int count : new int[] {1, 2, 20}) {
+                List<List<String>> before = registers(x);
+                Due.taken("appendRun(" + value + ", " + count + ")", x.appendRun(value, count));
+                for (int id : Ids.results()) {
+                    Due.same("register " + id, registers(x).get(id - 8), before.get(id - 8));
+                }
+            }
+            Due.due("getLength(8)", x.getLength(8), 20);
+            Due.due("getLength(9)", x.getLength(9), 31);
+            Due.due("getLength(10)", x.getLength(10), 0);
+            Due.due("getLength(11)", x.getLength(11), 70);
+        }
+    }
+
+    private static List<List<String>> registers(WahBitmapIndex x) {
+        return Ids.results().stream().map(id -> Snapshot.ofBitmap(x, id)).toList();
     }
 }

@@ -1,10 +1,50 @@
+import java.util.List;
+import java.util.function.Supplier;
+
 /** Indexes that several tests start from. */
 final class Samples {
     private Samples() {
     }
 
+    /** An index without rows, one with room left, and one that is full. */
+    static List<Supplier<WahBitmapIndex>> states(int valueCount) {
+        return List.of(
+            () -> new WahBitmapIndex(3, valueCount),
+            () -> mixed(valueCount),
+            () -> mixedAndFull(valueCount));
+    }
+
+    /** 70 of 93 rows; register 8 has 20 ones, 9 has 31 zeros, 10 is empty, 11 has all 70 rows. */
+    static WahBitmapIndex mixed(int valueCount) {
+        WahBitmapIndex x = new WahBitmapIndex(3, valueCount);
+        x.appendRun(0, 20);
+        x.combine(6, 8, 0, 0);
+        x.appendRun(0, 11);
+        x.combine(5, 9, 0, 0);
+        x.appendRun(-1, 19);
+        x.appendRun(valueCount - 1, 20);
+        x.combine(5, 11, 0, 0);
+        return x;
+    }
+
+    static WahBitmapIndex mixedAndFull(int valueCount) {
+        WahBitmapIndex x = mixed(valueCount);
+        x.appendRun(0, 23);
+        return x;
+    }
+
+    /** An index with the values 0 and 1, and runs of rows, each given as a value and a count. */
+    static WahBitmapIndex ofRuns(int... runs) {
+        WahBitmapIndex x = new WahBitmapIndex(16, 2);
+        for (int i = 0; i < runs.length; i += 2) {
+            Due.taken("appendRun(" + runs[i] + ", " + runs[i + 1] + ")",
+                x.appendRun(runs[i], runs[i + 1]));
+        }
+        return x;
+    }
+
     /** The largest index, filled to its end with value 3, which every register copies. */
-    static WahBitmapIndex full() {
+    static WahBitmapIndex largest() {
         WahBitmapIndex x = new WahBitmapIndex(16, 8);
         x.appendRun(3, 496);
         for (int id : Ids.results()) {
@@ -30,6 +70,17 @@ final class Samples {
         for (int id : Ids.results()) {
             x.selectRange(id, 0, 0);
         }
+        return x;
+    }
+
+    /** Register 8 gets 0011 and register 9 gets 0101, in a column of the rows 0, 1, 2, 3. */
+    static WahBitmapIndex truthTable() {
+        WahBitmapIndex x = new WahBitmapIndex(1, 4);
+        for (int value = 0; value < 4; value++) {
+            x.appendRow(value);
+        }
+        x.selectRange(8, 2, 3);
+        x.combine(2, 9, 1, 3);
         return x;
     }
 }
