@@ -5,8 +5,17 @@ final class Due {
     // One fault may show in very many answers; those beyond this number are only counted.
     private static final int MOST_TOLD = 200;
 
+    // A test takes a few seconds; one that is still running then waits for a call without end.
+    private static final long MOST_MILLISECONDS = 120_000;
+
     private static int asked = 0;
     private static int wrong = 0;
+
+    static {
+        Thread watch = new Thread(Due::endWhenStuck);
+        watch.setDaemon(true);
+        watch.start();
+    }
 
     private Due() {
     }
@@ -62,6 +71,16 @@ final class Due {
         if (wrong != 0 || asked == 0) {
             System.exit(1);
         }
+    }
+
+    private static void endWhenStuck() {
+        try {
+            Thread.sleep(MOST_MILLISECONDS);
+        } catch (InterruptedException stopped) {
+            return;
+        }
+        System.out.println("a call does not end");
+        System.exit(1);
     }
 
     private static void check(String call, String got, String want) {

@@ -132,7 +132,7 @@ public final class Promise01ConstructionTest {
         Due.due("getLength(" + id + ")", x.getLength(id), 0);
         Due.due("getWordCount(" + id + ")", x.getWordCount(id), 0);
         Due.due("countBits(" + id + ")", x.countBits(id), 0);
-        for (int edge : new int[] {MIN, -1, 0, 1, 30, 31, 495, 496, MAX}) {
+        for (int edge : new int[] {-31, -1, 0, 1, 30, 31, 495, 496}) {
             Due.due("getWord(" + id + ", " + edge + ")", x.getWord(id, edge), 0);
             Due.due("testBit(" + id + ", " + edge + ")", x.testBit(id, edge), false);
             Due.due("nextSetRow(" + id + ", " + edge + ")", x.nextSetRow(id, edge), -1);

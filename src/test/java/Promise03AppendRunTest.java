@@ -63,22 +63,32 @@ public final class Promise03AppendRunTest {
         for (int groups = 1; groups <= 16; groups++) {
             int capacity = 31 * groups;
             for (int rows = 0; rows < capacity; rows += groups == 1 ? 1 : 17) {
-                int room = capacity - rows;
-                takenRun(groups, rows, 1);
-                takenRun(groups, rows, room);
-                Due.due("appendRun(1, room + 1)",
-                    withRows(groups, rows).appendRun(1, room + 1), false);
-                Due.due("appendRun(1, 0)", withRows(groups, rows).appendRun(1, 0), false);
+                for (int value = -1; value <= 1; value++) {
+                    roomFor(groups, rows, value);
+                }
             }
         }
     }
 
-    private static void takenRun(int groups, int rows, int count) {
+    private static void roomFor(int groups, int rows, int value) {
+        int room = 31 * groups - rows;
+        takenRun(groups, rows, value, 1);
+        takenRun(groups, rows, value, room);
+        for (int count : new int[] {0, room + 1}) {
+            WahBitmapIndex x = withRows(groups, rows);
+            String call = "appendRun(" + value + ", " + count + ")";
+            Due.due(call, x.appendRun(value, count), false);
+            Due.due("getRowCount() after " + call, x.getRowCount(), rows);
+        }
+    }
+
+    private static void takenRun(int groups, int rows, int value, int count) {
         WahBitmapIndex x = withRows(groups, rows);
-        Due.taken("appendRun(1, " + count + ") after " + rows, x.appendRun(1, count));
-        Due.due("getRowCount()", x.getRowCount(), rows + count);
-        Due.due("getValueAt(last row)", x.getValueAt(rows + count - 1), 1);
-        Due.due("getValueAt(after it)", x.getValueAt(rows + count), -2);
+        String call = "appendRun(" + value + ", " + count + ")";
+        Due.taken(call, x.appendRun(value, count));
+        Due.due("getRowCount() after " + call, x.getRowCount(), rows + count);
+        Due.due("last row after " + call, x.getValueAt(rows + count - 1), value);
+        Due.due("no row after " + call, x.getValueAt(rows + count), -2);
     }
 
     private static void refusesWrongCounts() {
@@ -185,24 +195,24 @@ public final class Promise03AppendRunTest {
         }
     }
 
+    /** Registers of several lengths, while the rows grow by one, by a group and to the end. */
     private static void registersStay() {
-        for (int value = -1; value <= 2; value++) {
-            WahBitmapIndex x = Samples.mixed(3);
-            for (int count : new int[] {1, 2, 20}) {
-                List<List<String>> before = registers(x);
-                Due.taken("appendRun(" + value + ", " + count + ")", x.appendRun(value, count));
-                for (int id : Ids.results()) {
-                    Due.same("register " + id, registers(x).get(id - 8), before.get(id - 8));
+        for (int groups = 3; groups <= 16; groups++) {
+            for (int value = -1; value <= 2; value++) {
+                WahBitmapIndex x = Samples.mixed(groups, 3);
+                List<String> before = Snapshot.ofBitmaps(x, Ids.results());
+                for (int count : new int[] {1, 2, 31 * groups - 74, 1}) {
+                    Due.taken("appendRun(" + value + ", " + count + ")", x.appendRun(value, count));
+                    Due.same("after it", Snapshot.ofBitmaps(x, Ids.results()), before);
                 }
+                Due.due("getRowCount()", x.getRowCount(), 31 * groups);
+                Due.due("lengths of registers", lengths(x), "20 31 0 70");
             }
-            Due.due("getLength(8)", x.getLength(8), 20);
-            Due.due("getLength(9)", x.getLength(9), 31);
-            Due.due("getLength(10)", x.getLength(10), 0);
-            Due.due("getLength(11)", x.getLength(11), 70);
         }
     }
 
-    private static List<List<String>> registers(WahBitmapIndex x) {
-        return Ids.results().stream().map(id -> Snapshot.ofBitmap(x, id)).toList();
+    private static String lengths(WahBitmapIndex x) {
+        return x.getLength(8) + " " + x.getLength(9) + " " + x.getLength(10) + " "
+            + x.getLength(11);
     }
 }

@@ -147,13 +147,17 @@ public final class Promise04CombineTest {
         }
     }
 
-    /** Value bitmap 0 is 35 ones and 25 zeros; register 8 is 10 ones long, register 9 empty. */
+    /**
+     * Value bitmap 0 is 35 ones and 25 zeros; register 8 is 10 ones long, register 9 empty.
+     * Register 10, which gets the results, is long before.
+     */
     private static WahBitmapIndex lengths() {
         WahBitmapIndex x = new WahBitmapIndex(2, 2);
         x.appendRun(0, 10);
         x.combine(6, 8, 0, 0);
         x.appendRun(0, 25);
         x.appendRun(1, 25);
+        x.combine(2, 10, 0, 1);
         return x;
     }
 
@@ -241,8 +245,34 @@ public final class Promise04CombineTest {
         }
     }
 
-    /** Register 8 was long before, or is the negation of a short bitmap: neither may come back. */
     private static void bitsBeyondTheEnd() {
+        for (int shorter = 0; shorter <= 93; shorter++) {
+            for (int longer = shorter; longer <= 93; longer++) {
+                onesOfTwoLengths(shorter, longer);
+            }
+        }
+        bitsThatAreGone();
+    }
+
+    private static void onesOfTwoLengths(int shorter, int longer) {
+        WahBitmapIndex x = new WahBitmapIndex(3, 1);
+        x.appendRun(0, shorter);
+        x.combine(6, 8, 0, 0);
+        x.appendRun(0, longer - shorter);
+        x.combine(6, 9, 0, 0);
+        String beyond = zeros(shorter) + ones(longer - shorter);
+        result(x, 1, 8, 9, ones(shorter) + zeros(longer - shorter));
+        result(x, 1, 9, 8, ones(shorter) + zeros(longer - shorter));
+        result(x, 2, 8, 9, ones(longer));
+        result(x, 2, 9, 8, ones(longer));
+        result(x, 3, 8, 9, zeros(longer));
+        result(x, 3, 9, 8, beyond);
+        result(x, 4, 8, 9, beyond);
+        result(x, 4, 9, 8, beyond);
+    }
+
+    /** Register 8 was long before, or is the negation of a short bitmap: neither may come back. */
+    private static void bitsThatAreGone() {
         WahBitmapIndex x = new WahBitmapIndex(4, 2);
         Due.taken("appendRun(0, 5)", x.appendRun(0, 5));
         Due.taken("copy of 5 rows", x.combine(6, 9, 0, 0));
@@ -322,16 +352,21 @@ public final class Promise04CombineTest {
     }
 
     private static void onlyDestinationChanges() {
-        for (int dst : Ids.results()) {
-            for (int op = 1; op <= 6; op++) {
-                for (int a : Ids.valid(3)) {
-                    WahBitmapIndex x = Samples.mixed(3);
-                    List<String> before = Snapshot.without(x, dst);
-                    Due.taken(named(op, dst, a, 11), x.combine(op, dst, a, 11));
-                    Due.same("after " + named(op, dst, a, 11), Snapshot.without(x, dst), before);
+        for (Supplier<WahBitmapIndex> made : Samples.states(3)) {
+            for (int dst : Ids.results()) {
+                for (int op = 1; op <= 6; op++) {
+                    for (int a : Ids.valid(3)) {
+                        onlyChanges(made.get(), op, dst, a);
+                    }
                 }
             }
         }
+    }
+
+    private static void onlyChanges(WahBitmapIndex x, int op, int dst, int a) {
+        List<String> before = Snapshot.without(x, dst);
+        Due.taken(named(op, dst, a, 11), x.combine(op, dst, a, 11));
+        Due.same("after " + named(op, dst, a, 11), Snapshot.without(x, dst), before);
     }
 
     private static void greatestLength() {

@@ -1,3 +1,4 @@
+import java.util.function.Consumer;
 import java.util.function.Supplier;
 
 /** Promises 7 to 9: getRowCount, getCapacity and getValueCount. */
@@ -10,7 +11,12 @@ public final class Promise07To09CountsTest {
             Promise07To09CountsTest::everyCapacity);
         Due.holds("`getValueCount()` answers valueCount, the clamped values (1..8).",
             Promise07To09CountsTest::everyValueCount);
-        Due.holds("Changes nothing.", Promise07To09CountsTest::changesNothing);
+        Due.holds("Changes nothing. (getRowCount)",
+            () -> changesNothing("getRowCount()", WahBitmapIndex::getRowCount));
+        Due.holds("Changes nothing. (getCapacity)",
+            () -> changesNothing("getCapacity()", WahBitmapIndex::getCapacity));
+        Due.holds("Changes nothing. (getValueCount)",
+            () -> changesNothing("getValueCount()", WahBitmapIndex::getValueCount));
         Due.end();
     }
 
@@ -79,11 +85,9 @@ public final class Promise07To09CountsTest {
         Due.due("values of the greatest int", most, 8);
     }
 
-    private static void changesNothing() {
+    private static void changesNothing(String call, Consumer<WahBitmapIndex> ask) {
         for (Supplier<WahBitmapIndex> made : Samples.states(3)) {
-            Twins.readsOnly("getRowCount()", made, WahBitmapIndex::getRowCount);
-            Twins.readsOnly("getCapacity()", made, WahBitmapIndex::getCapacity);
-            Twins.readsOnly("getValueCount()", made, WahBitmapIndex::getValueCount);
+            Twins.readsOnly(call, made, ask);
         }
     }
 }

@@ -6,17 +6,34 @@ final class Samples {
     private Samples() {
     }
 
-    /** An index without rows, one with room left, and one that is full. */
+    /** An index without rows, one with room left, one that is full, and the largest one. */
     static List<Supplier<WahBitmapIndex>> states(int valueCount) {
         return List.of(
             () -> new WahBitmapIndex(3, valueCount),
             () -> mixed(valueCount),
-            () -> mixedAndFull(valueCount));
+            () -> mixedAndFull(valueCount),
+            () -> onesInEveryGroup(valueCount));
     }
 
-    /** 70 of 93 rows; register 8 has 20 ones, 9 has 31 zeros, 10 is empty, 11 has all 70 rows. */
+    /** 496 rows, and a 1 in each group of each bitmap, so that none can change unseen. */
+    private static WahBitmapIndex onesInEveryGroup(int valueCount) {
+        WahBitmapIndex x = new WahBitmapIndex(16, valueCount);
+        for (int row = 0; row < 496; row++) {
+            x.appendRow(row % (valueCount + 1) - 1);
+        }
+        for (int id : Ids.results()) {
+            x.combine(id % 2 == 0 ? 5 : 6, id, id % valueCount, 0);
+        }
+        return x;
+    }
+
     static WahBitmapIndex mixed(int valueCount) {
-        WahBitmapIndex x = new WahBitmapIndex(3, valueCount);
+        return mixed(3, valueCount);
+    }
+
+    /** 70 rows; register 8 has 20 ones, 9 has 31 zeros, 10 is empty, 11 has all 70 rows. */
+    static WahBitmapIndex mixed(int groups, int valueCount) {
+        WahBitmapIndex x = new WahBitmapIndex(groups, valueCount);
         x.appendRun(0, 20);
         x.combine(6, 8, 0, 0);
         x.appendRun(0, 11);

@@ -59,11 +59,21 @@ final class Snapshot {
         return lines;
     }
 
-    /** What is told of one bitmap alone. */
+    /** What is told of one bitmap alone; its id is left out, to compare it with another one. */
     static List<String> ofBitmap(WahBitmapIndex x, int id) {
         List<String> lines = new ArrayList<>();
         for (String method : OF_BITMAP.keySet()) {
             lines.add(method + " " + OF_BITMAP.get(method).apply(x, id));
+        }
+        return lines;
+    }
+
+    static List<String> ofBitmaps(WahBitmapIndex x, List<Integer> ids) {
+        List<String> lines = new ArrayList<>();
+        for (int id : ids) {
+            for (String line : ofBitmap(x, id)) {
+                lines.add("bitmap " + id + " " + line);
+            }
         }
         return lines;
     }

@@ -144,24 +144,14 @@ public final class TermsTest {
         for (Supplier<WahBitmapIndex> made : Samples.states(8)) {
             for (int dst = 0; dst < 12; dst++) {
                 WahBitmapIndex x = made.get();
-                List<List<String>> before = told(x, Ids.values(8));
+                List<String> before = Snapshot.ofBitmaps(x, Ids.values(8));
                 for (int op = 0; op <= 7; op++) {
                     x.combine(op, dst, 1, 9);
                 }
                 x.selectRange(dst, 0, 7);
                 x.clearResult(dst);
-                sameBitmaps(x, Ids.values(8), before);
+                Due.same("after calls to " + dst, Snapshot.ofBitmaps(x, Ids.values(8)), before);
             }
-        }
-    }
-
-    private static List<List<String>> told(WahBitmapIndex x, List<Integer> ids) {
-        return ids.stream().map(id -> Snapshot.ofBitmap(x, id)).toList();
-    }
-
-    private static void sameBitmaps(WahBitmapIndex x, List<Integer> ids, List<List<String>> want) {
-        for (int i = 0; i < ids.size(); i++) {
-            Due.same("bitmap " + ids.get(i), Snapshot.ofBitmap(x, ids.get(i)), want.get(i));
         }
     }
 
@@ -186,14 +176,14 @@ public final class TermsTest {
     private static void registersStay() {
         for (int value = -1; value < 8; value++) {
             WahBitmapIndex x = Samples.mixed(8);
-            List<List<String>> before = told(x, Ids.results());
-            while (x.appendRow(value)) {
-                sameBitmaps(x, Ids.results(), before);
+            List<String> before = Snapshot.ofBitmaps(x, Ids.results());
+            for (int row = 70; row < 93; row++) {
+                Due.taken("appendRow(" + value + ")", x.appendRow(value));
+                Due.same("after appending", Snapshot.ofBitmaps(x, Ids.results()), before);
             }
-            Due.due("getRowCount()", x.getRowCount(), 93);
             WahBitmapIndex y = Samples.mixed(8);
             Due.taken("appendRun(" + value + ", 23)", y.appendRun(value, 23));
-            sameBitmaps(y, Ids.results(), before);
+            Due.same("after appending", Snapshot.ofBitmaps(y, Ids.results()), before);
         }
     }
 
